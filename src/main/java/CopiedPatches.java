@@ -34,6 +34,7 @@ public final class CopiedPatches {
     private static final int MOST_FINDINGS = 24;
 
     private static final int WITH_NOTHING = 0, WITH_SQUARES = 1, WITH_SHIFTS = 2, WITH_FINDINGS = 3;
+    private static final int LAST_COUNT_OF_SQUARES = 3, LAST_COUNT_OF_SHIFTS = 5, LAST_COUNT = 7;
     private static final int IN_FINDING = 0, IN_COPY = 1, IN_EITHER = 2;
 
     private final Picture sheet = new Picture();
@@ -232,17 +233,29 @@ public final class CopiedPatches {
     }
 
     public int would(int which, int v, int what) {
-        if (!isSetting(which, v)) {
+        if (!isSetting(which, v) || !isWithin(what, 0, LAST_COUNT)) {
             return OUTSIDE;
         }
         System.arraycopy(now.settings, 0, other.settings, 0, SETTINGS);
         other.settings[which] = v;
         other.forget();
+        other.reach(stageOfCount(what));
         return other.howMany(what);
     }
 
     public int many(int what) {
+        if (!isWithin(what, 0, LAST_COUNT)) {
+            return OUTSIDE;
+        }
+        now.reach(stageOfCount(what));
         return now.howMany(what);
+    }
+
+    private static int stageOfCount(int what) {
+        if (what <= LAST_COUNT_OF_SQUARES) {
+            return WITH_SQUARES;
+        }
+        return what <= LAST_COUNT_OF_SHIFTS ? WITH_SHIFTS : WITH_FINDINGS;
     }
 
     private static boolean isWithin(int v, int from, int to) {
@@ -349,10 +362,9 @@ public final class CopiedPatches {
             flats = 0;
             for (int y = 0; y < down; y++) {
                 for (int x = 0; x < across; x++) {
-                    int place = EDGE * y + x;
                     measure(picture, x, y, settings[FLATNESS]);
                     readNumbers(picture, x, y, settings);
-                    order[count] = place;
+                    order[count] = EDGE * y + x;
                     count++;
                 }
             }
@@ -885,11 +897,8 @@ public final class CopiedPatches {
             }
         }
 
+        /** Of what has been reached. */
         int howMany(int what) {
-            if (!isWithin(what, 0, 7)) {
-                return OUTSIDE;
-            }
-            reach(what < 4 ? WITH_SQUARES : what < 6 ? WITH_SHIFTS : WITH_FINDINGS);
             switch (what) {
                 case 0: return squares.count;
                 case 1: return squares.flats;

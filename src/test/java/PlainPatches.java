@@ -11,7 +11,7 @@ import java.util.TreeSet;
 
 /**
  * The document written down once more, as plainly as the Java library allows and sharing nothing
- * with the class: everything is found anew at each call.
+ * with the class. PAIRS and FINDINGS are kept until the next change, for they are slow to find.
  */
 final class PlainPatches {
     static final int UNKNOWN = -1, OUTSIDE = -2, NONE = -9;
@@ -22,6 +22,8 @@ final class PlainPatches {
     private int height = 16;
     private Map<Integer, Integer> greys = new HashMap<>();
     private int[] settings = {3, 1, 0, 0, 3, 8, 1, 0};
+    private List<Pair> keptPairs;
+    private List<Found> keptFindings;
 
     private record Way(int dx, int dy) {
     }
@@ -50,8 +52,14 @@ final class PlainPatches {
         return greys.getOrDefault(place, 0);
     }
 
+    private void forget() {
+        keptPairs = null;
+        keptFindings = null;
+    }
+
     int picture(int w, int h) {
         if (w < 1 || w > 16 || h < 1 || h > 16) return OUTSIDE;
+        forget();
         width = w;
         height = h;
         greys = new HashMap<>();
@@ -62,6 +70,7 @@ final class PlainPatches {
         if (!has(x, y)) return UNKNOWN;
         if (v < 0 || v > 99) return OUTSIDE;
         int was = grey(16 * y + x);
+        forget();
         greys.put(16 * y + x, v);
         return was;
     }
@@ -80,6 +89,7 @@ final class PlainPatches {
             if (grey(place) != next.getOrDefault(place, 0)) changed++;
         }
         greys = next;
+        forget();
         return changed;
     }
 
@@ -116,6 +126,7 @@ final class PlainPatches {
         if (!canBe(which, v)) return OUTSIDE;
         int was = settings[which];
         settings[which] = v;
+        forget();
         return was;
     }
 
@@ -187,6 +198,11 @@ final class PlainPatches {
     }
 
     private List<Pair> pairs() {
+        if (keptPairs == null) keptPairs = findPairs();
+        return keptPairs;
+    }
+
+    private List<Pair> findPairs() {
         Set<Integer> crowded = crowded();
         List<Pair> pairs = new ArrayList<>();
         for (List<Integer> kind : kinds().values()) {
@@ -274,6 +290,11 @@ final class PlainPatches {
     }
 
     private List<Found> findings() {
+        if (keptFindings == null) keptFindings = findFindings();
+        return keptFindings;
+    }
+
+    private List<Found> findFindings() {
         List<Pair> pairs = pairs();
         List<Way> shifts = shifts(pairs);
         List<Region> regions = new ArrayList<>();
@@ -395,8 +416,10 @@ final class PlainPatches {
         if (!canBe(which, v)) return OUTSIDE;
         int[] before = Arrays.copyOf(settings, 8);
         settings[which] = v;
+        forget();
         int many = many(what);
         settings = before;
+        forget();
         return many;
     }
 
