@@ -26,6 +26,10 @@ final class Due {
         return wrong;
     }
 
+    static int askedSoFar() {
+        return asked;
+    }
+
     static void end() {
         System.out.println(asked + " answers, " + wrong + " not as due");
         if (wrong != 0 || asked == 0) {

@@ -1,45 +1,10 @@
 /** For each promise of the document: ordinary calls, the edges that it names, and wrong numbers. */
-public final class PromisesTest {
-    private static final int UNKNOWN = -1, OUTSIDE = -2, NONE = -9;
-    private static final int SIDE = 0, STEP = 1, MANNER = 2, FLATNESS = 3;
-    private static final int REACH = 4, CROWD = 5, LEAST = 6, SLACK = 7;
-    private static final int LOWEST = Integer.MIN_VALUE, HIGHEST = Integer.MAX_VALUE;
-    private static final int[] LOW = {2, 1, 0, 0, 1, 2, 1, 0};
-    private static final int[] HIGH = {4, 20, 1, 99, 15, 20, 99, 30};
-    private static final int[] AT_FIRST = {3, 1, 0, 0, 3, 8, 1, 0};
-
-    private static String promise = "";
-
+public final class PromisesTest extends ByDocument {
     private PromisesTest() {
     }
 
-    private static void due(String call, int got, int want) {
-        Due.is(promise + ": " + call, got, want);
-    }
-
-    /** Rows of greys, one row of the picture each. */
-    private static CopiedPatches drawn(int[]... rows) {
-        CopiedPatches drawn = new CopiedPatches();
-        drawn.picture(rows[0].length, rows.length);
-        for (int y = 0; y < rows.length; y++) {
-            for (int x = 0; x < rows[y].length; x++) {
-                if (rows[y][x] != 0) drawn.dot(x, y, rows[y][x]);
-            }
-        }
-        return drawn;
-    }
-
-    /** Dots of grey in a row 16 columns wide and 2 high, SIDE 2, at the columns told. */
-    private static CopiedPatches dotted(int... columns) {
-        CopiedPatches dotted = new CopiedPatches();
-        dotted.picture(16, 2);
-        dotted.tune(SIDE, 2);
-        for (int x : columns) dotted.dot(x, 0, 9);
-        return dotted;
-    }
-
     private static void newObject() {
-        promise = "1 a new object";
+        by(1, "All GREYS 0, SETTINGS as told.");
         CopiedPatches x = new CopiedPatches();
         for (int place = 0; place < 256; place++) due("at", x.at(place % 16, place / 16), 0);
         due("at(16, 0)", x.at(16, 0), UNKNOWN);
@@ -57,7 +22,7 @@ public final class PromisesTest {
     }
 
     private static void picture() {
-        promise = "2 picture";
+        by(2, "A new PICTURE of w columns and h rows, all GREYS 0 (SETTINGS stay): how many places it has.");
         CopiedPatches x = new CopiedPatches();
         x.raise(0, 0, 16, 16, 7);
         x.tune(SIDE, 2);
@@ -81,7 +46,7 @@ public final class PromisesTest {
     }
 
     private static void dotAndAt() {
-        promise = "3 dot";
+        by(3, "The GREY at a place becomes v: what it was.");
         CopiedPatches x = new CopiedPatches();
         x.picture(6, 5);
         due("dot(5, 4, 99)", x.dot(5, 4, 99), 0);
@@ -96,14 +61,14 @@ public final class PromisesTest {
         due("dot(2, 3, -1)", x.dot(2, 3, -1), OUTSIDE);
         due("dot(2, 3, 100)", x.dot(2, 3, 100), OUTSIDE);
         due("dot(2, 3, HIGHEST)", x.dot(2, 3, HIGHEST), OUTSIDE);
-        promise = "4 at";
+        by(4, "The GREY at a place.");
         due("at(2, 3)", x.at(2, 3), 42);
         due("at(3, 2)", x.at(3, 2), 0);
         for (int[] p : noPlace) due("at, no place", x.at(p[0], p[1]), UNKNOWN);
     }
 
     private static void raise() {
-        promise = "5 raise";
+        by(5, "All GREYS of w columns and h rows from a place on become v more");
         CopiedPatches x = new CopiedPatches();
         x.picture(6, 5);
         x.dot(0, 0, 95);
@@ -133,7 +98,7 @@ public final class PromisesTest {
     }
 
     private static void paste() {
-        promise = "6 paste";
+        by(6, "GREYS of w columns and h rows from a place on go to another place");
         CopiedPatches x = drawn(new int[] {1, 2, 3, 4, 5}, new int[] {6, 7, 8, 9, 10});
         due("paste(0, 0, 4, 1, 1, 0), over itself", x.paste(0, 0, 4, 1, 1, 0), 4);
         int[] shifted = {1, 1, 2, 3, 4};
@@ -160,7 +125,7 @@ public final class PromisesTest {
     }
 
     private static void tune() {
-        promise = "7 tune";
+        by(7, "A SETTING becomes v: what it was.");
         CopiedPatches x = new CopiedPatches();
         for (int which = 0; which < 8; which++) {
             due("tune to the least", x.tune(which, LOW[which]), AT_FIRST[which]);
@@ -176,7 +141,7 @@ public final class PromisesTest {
     }
 
     private static void mark() {
-        promise = "8 mark";
+        by(8, "MARK of the SQUARE at a place.");
         CopiedPatches x = drawn(new int[] {1, 20, 3}, new int[] {4, 5, 6}, new int[] {7, 8, 9});
         x.tune(SIDE, 2);
         due("mark(0, 0)", x.mark(0, 0), (((31 + 1) * 31 + 20) * 31 + 4) * 31 + 5);
@@ -202,7 +167,7 @@ public final class PromisesTest {
     }
 
     private static void square() {
-        promise = "9 square";
+        by(9, "Of the SQUARE at a place:");
         CopiedPatches x = drawn(new int[] {30, 44, 30, 44, 31}, new int[] {52, 37, 52, 37, 52});
         x.tune(SIDE, 2);
         x.tune(STEP, 2);
@@ -253,7 +218,7 @@ public final class PromisesTest {
     }
 
     private static void inOrder() {
-        promise = "10 inOrder";
+        by(10, "The number of the place of the k-th SQUARE in ORDER (from 0).");
         CopiedPatches x = drawn(new int[] {0, 0, 1, 0, 0, 1}, new int[] {0, 2, 0, 0, 2, 0});
         x.tune(SIDE, 2);
         int[] order = {0, 3, 1, 4, 2};
@@ -274,7 +239,7 @@ public final class PromisesTest {
     }
 
     private static void pair() {
-        promise = "11 pair";
+        by(11, "Of the k-th PAIR (from 0), by the first place's number, then the second's");
         CopiedPatches x = dotted(1, 5, 9);
         int[][] pairs = {{0, 4}, {0, 8}, {1, 5}, {1, 9}, {4, 8}, {5, 9}};
         for (int k = 0; k < pairs.length; k++) {
@@ -321,7 +286,7 @@ public final class PromisesTest {
     }
 
     private static void votes() {
-        promise = "12 votes";
+        by(12, "VOTES of a SHIFT (be they fewer than LEAST).");
         CopiedPatches x = dotted(1, 5, 9);
         due("votes(4, 0)", x.votes(4, 0), 4);
         due("votes(8, 0)", x.votes(8, 0), 2);
@@ -340,7 +305,7 @@ public final class PromisesTest {
     }
 
     private static void shift() {
-        promise = "13 shift";
+        by(13, "Of SHIFT k:");
         CopiedPatches x = dotted(1, 5, 9);
         int[][] wants = {{104, 0, 4, 2}, {108, 0, 2, 1}};
         for (int k = 0; k < 2; k++) {
@@ -400,7 +365,7 @@ public final class PromisesTest {
     }
 
     private static void finding() {
-        promise = "14 finding";
+        by(14, "Of FINDING k:");
         CopiedPatches x = leftward();
         int[] wants = {0, 1, 9, 9, 5, 7, 0, 2, 100, 0};
         for (int what = 0; what <= 9; what++) due("finding(0, " + what + ")", x.finding(0, what), wants[what]);
@@ -505,7 +470,7 @@ public final class PromisesTest {
     }
 
     private static void holds() {
-        promise = "15 holds";
+        by(15, "Of a place and FINDING k:");
         CopiedPatches x = leftward();
         due("in it", x.holds(0, 5, 0), 1);
         due("in it, its last", x.holds(0, 7, 2), 1);
@@ -522,7 +487,7 @@ public final class PromisesTest {
     }
 
     private static void seen() {
-        promise = "16 seen";
+        by(16, "The set of columns of row y");
         CopiedPatches x = leftward();
         int[] found = {224, 224, 224, 0, 0, 0, 0};
         int[] copied = {0, 0, 0, 0, 7, 7, 7};
@@ -542,7 +507,7 @@ public final class PromisesTest {
     }
 
     private static void would() {
-        promise = "17 would";
+        by(17, "What many(what) would be, if a SETTING were v");
         CopiedPatches x = dotted(1, 5, 9);
         due("would(REACH, 5, 4)", x.would(REACH, 5, 4), 2);
         due("would(CROWD, 2, 2)", x.would(CROWD, 2, 2), 6);
@@ -569,7 +534,7 @@ public final class PromisesTest {
     }
 
     private static void many() {
-        promise = "18 many";
+        by(18, "How many:");
         CopiedPatches x = dotted(1, 5, 9);
         int[] wants = {15, 9, 0, 3, 6, 2, 3};
         for (int what = 0; what <= 6; what++) due("many(" + what + ")", x.many(what), wants[what]);
@@ -601,6 +566,7 @@ public final class PromisesTest {
         seen();
         would();
         many();
+        endOfQuote();
         Due.end();
     }
 }
