@@ -191,6 +191,22 @@ public final class FindingBoundariesTest extends ByDocument {
         due("behind which it holds nothing", x.holds(0, 5, 2), 0);
     }
 
+    /** Three columns of squares that are not flat, five columns of zeros beside them, in all 16 rows. */
+    private static void growsInAllRows() {
+        by(14, "Then, as long as there is one,");
+        CopiedPatches x = textured(16, 16);
+        x.raise(2, 0, 6, 16, -99);
+        x.paste(0, 0, 8, 16, 8, 0);
+        dueFinding("in all rows at once", x, 0, 0, 2 * 15, 3 * 16, 8 * 16, 0, 7, 0, 15, 100, 0);
+        CopiedPatches column = textured(12, 16);
+        column.tune(SLACK, 1);
+        column.paste(1, 0, 2, 2, 7, 0);
+        column.paste(0, 0, 1, 16, 6, 0);
+        column.raise(6, 0, 1, 16, 1);
+        column.paste(1, 5, 1, 1, 7, 5);
+        dueFinding("down a column and on from there", column, 0, 0, 1, 4, 21, 0, 2, 0, 15, 100, 16);
+    }
+
     /** Paths that lead to an edge, along it and back, and a place at that edge that no path leads to. */
     private static void growsAlongTheEdges() {
         by(14, "a place on the left, on the right, above or below one that is in it comes to it");
@@ -549,6 +565,7 @@ public final class FindingBoundariesTest extends ByDocument {
         placesFirst();
         growsToFourSides();
         growsAsLongAsThereIsOne();
+        growsInAllRows();
         growsAlongTheEdges();
         endsAtThePicture();
         endsAtTheRow();

@@ -254,7 +254,10 @@ public final class ShiftBoundariesTest extends ByDocument {
 
     private static void dueAcross(String which, CopiedPatches x, int... across) {
         due(which + ", how many", x.many(5), across.length);
-        for (int k = 0; k < across.length; k++) due(which + ", shift " + k, x.shift(k, 0), 100 + across[k]);
+        for (int k = 0; k < across.length; k++) {
+            due(which + ", shift " + k, x.shift(k, 0), 100 + across[k]);
+            due(which + ", regions of shift " + k, x.shift(k, 3), 1);
+        }
         due(which + ", behind the last", x.shift(across.length, 0), UNKNOWN);
     }
 
