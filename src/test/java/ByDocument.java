@@ -8,6 +8,12 @@ abstract class ByDocument {
     static final int[] LOW = {2, 1, 0, 0, 1, 2, 1, 0};
     static final int[] HIGH = {4, 20, 1, 99, 15, 20, 99, 30};
     static final int[] AT_FIRST = {3, 1, 0, 0, 3, 8, 1, 0};
+    static final int MOST_PAIRS = 11 * 190 + 10;
+    private static final String[] FULLEST = {
+        "1111111111111111", "0101010010000101", "1010001101010000", "1111010111111010",
+        "0010000001010100", "1111101010001110", "0010111101010100", "0111000010111010",
+        "0000010101101100", "0101000010111001", "0011110111010010", "0110101010001001",
+        "0000011111010100", "1010110101100001", "1111101011010111", "0000000000000000"};
 
     private static String quoted = "";
     private static int askedAhead = -1;
@@ -90,6 +96,25 @@ abstract class ByDocument {
         tiled.paste(0, 0, 6, 16, 6, 0);
         tiled.paste(0, 0, 4, 16, 12, 0);
         return tiled;
+    }
+
+    /**
+     * As many pairs as there can be: no picture has more than 225 squares, and no kind more than 20 that
+     * pair up, for CROWD is 20 at most; of these 11 kinds have 20 squares and one the 5 that are left.
+     */
+    static CopiedPatches fullest() {
+        CopiedPatches fullest = new CopiedPatches();
+        fullest.tune(SIDE, 2);
+        fullest.tune(REACH, 1);
+        fullest.tune(CROWD, 20);
+        for (int place = 0; place < 256; place++) {
+            if (greyOfFullest(place) != 0) fullest.dot(place % 16, place / 16, greyOfFullest(place));
+        }
+        return fullest;
+    }
+
+    static int greyOfFullest(int place) {
+        return FULLEST[place / 16].charAt(place % 16) == '1' ? 9 : 0;
     }
 
     /** Columns of 0 and 9 in turn: squares of SIDE 2 are of two kinds in turn. */

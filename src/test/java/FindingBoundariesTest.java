@@ -493,6 +493,10 @@ public final class FindingBoundariesTest extends ByDocument {
         due("REACH 12", tiles.would(REACH, 12, 5), 8);
         due("REACH 13", tiles.would(REACH, 13, 4), 0);
         due("SIDE 3", tiles.would(SIDE, 3, 0), 196);
+        CopiedPatches full = fullest();
+        full.tune(CROWD, 8);
+        due("CROWD 20, as many pairs as there can be", full.would(CROWD, 20, 4), MOST_PAIRS);
+        due("many(4), as nothing was changed, CROWD 8", full.many(4), 10);
         CopiedPatches empty = new CopiedPatches();
         empty.picture(1, 16);
         for (int what = 0; what < 8; what++) due("no square, what " + what, empty.would(SIDE, 2, what), 0);
@@ -526,6 +530,7 @@ public final class FindingBoundariesTest extends ByDocument {
         dueCounts("all crowded", striped(16, 16), 225, 0, 225, 2, 0, 0, 0, 0);
         dueCounts("all unlike", textured(16, 16), 225, 0, 0, 225, 0, 0, 0, 0);
         dueCounts("pairs and shifts", tiled(), 225, 0, 0, 12, 2025, 8, 8, 256);
+        dueCounts("as many pairs as there can be", fullest(), 225, 0, 0, 12, MOST_PAIRS, 8, 24, 256);
         CopiedPatches findings = patched();
         dueCounts("24 findings", findings, 143, 0, 0, 143 - 4 * 3, 24, 3, 24, 64);
         findings.paste(0, 12, 2, 2, 3, 12);

@@ -45,6 +45,58 @@ public final class ShiftBoundariesTest extends ByDocument {
         due("behind the last of them", x.pair(315, 1), UNKNOWN);
     }
 
+    /** Each pair is asked for, of as many objects as that takes. */
+    private static void asManyPairsAsThereCanBe() {
+        by(11, "Of the k-th PAIR (from 0), by the first place's number, then the second's");
+        PlainPatches plain = plainFullest();
+        due("how many by the document", plain.many(4), MOST_PAIRS);
+        CopiedPatches x = fullest();
+        due("how many", x.many(4), MOST_PAIRS);
+        for (int k = 0; k < MOST_PAIRS; k++) {
+            if (k % 150 == 0) x = fullest();
+            due("pair(" + k + ", 0)", x.pair(k, 0), plain.pair(k, 0));
+            due("pair(" + k + ", 1)", x.pair(k, 1), plain.pair(k, 1));
+        }
+        due("the last, first", x.pair(MOST_PAIRS - 1, 0), 16 * 14 + 13);
+        due("the last, second", x.pair(MOST_PAIRS - 1, 1), 16 * 14 + 14);
+        due("behind the last", x.pair(MOST_PAIRS, 0), UNKNOWN);
+        x.tune(CROWD, 19);
+        due("those of the kind of 5", x.many(4), 10);
+        x.tune(CROWD, 4);
+        due("none, as all are crowded", x.many(4), 0);
+        votesOfAsManyPairs(plain);
+    }
+
+    private static void votesOfAsManyPairs(PlainPatches plain) {
+        by(12, "VOTES of a SHIFT: how many PAIRS have it.");
+        int together = 0;
+        CopiedPatches x = fullest();
+        for (int way = 0; way < 31 * 16; way++) {
+            if (way % 300 == 0) x = fullest();
+            int dx = way % 31 - 15, dy = way / 31;
+            int votes = x.votes(dx, dy);
+            due("votes(" + dx + ", " + dy + ")", votes, plain.votes(dx, dy));
+            together += votes;
+        }
+        due("all together", together, MOST_PAIRS);
+        by(13, "Of SHIFT k:");
+        x = fullest();
+        for (int k = 0; k < 8; k++) {
+            for (int what = 0; what < 4; what++) {
+                due("shift(" + k + ", " + what + ")", x.shift(k, what), plain.shift(k, what));
+            }
+        }
+    }
+
+    private static PlainPatches plainFullest() {
+        PlainPatches plain = new PlainPatches();
+        plain.tune(SIDE, 2);
+        plain.tune(REACH, 1);
+        plain.tune(CROWD, 20);
+        for (int place = 0; place < 256; place++) plain.dot(place % 16, place / 16, greyOfFullest(place));
+        return plain;
+    }
+
     private static void flatOnesAndCrowdedOnes() {
         by(11, "A PAIR: two SQUARES that are ALIKE, neither FLAT nor CROWDED");
         CopiedPatches x = new CopiedPatches();
@@ -364,6 +416,7 @@ public final class ShiftBoundariesTest extends ByDocument {
     public static void main(String[] args) {
         noPair();
         asManyPairs();
+        asManyPairsAsThereCanBe();
         flatOnesAndCrowdedOnes();
         firstOfAPair();
         asFarAsReach();

@@ -497,6 +497,10 @@ public final class SquareBoundariesTest extends ByDocument {
         due("in none, as the other is too near", x.square(0, 0, 5), 0);
         due("in as many as there can be", tiled().square(14, 12, 5), 19);
         due("of a kind of 15", tiled().square(14, 11, 5), 14);
+        CopiedPatches full = fullest();
+        int together = 0;
+        for (int place = 0; place < 225; place++) together += full.square(place % 15, place / 15, 5);
+        due("each of as many pairs as there can be has two", together, 2 * MOST_PAIRS);
     }
 
     private static void inOrderFromFirstToLast() {
