@@ -20,6 +20,11 @@ public final class LanguageTest {
         "\\bthrow\\b", "\\btry\\b", "\\bcatch\\b", "\\bsynchronized\\b", "\\bassert\\b", "->", "::",
         "\\bimport\\b", "\\bpackage\\b", "Exact\\(", "\\bequals\\(", "\\bhashCode\\(", "\\btoString\\("};
 
+    private static final Pattern LIBRARY = Pattern.compile("\\b(Math|Integer|Long|System|Arrays|String\\w*|"
+            + "Character|Boolean|Double|Float|List|ArrayList|Objects|Thread|Runtime)\\b(\\.\\w+)?");
+    private static final Set<String> LIBRARY_ALLOWED = Set.of("Math.abs", "Math.max", "Math.min",
+            "Integer.bitCount", "System.arraycopy");
+
     private LanguageTest() {
     }
 
@@ -71,6 +76,8 @@ public final class LanguageTest {
         for (String forbidden : FORBIDDEN) {
             Due.isTrue("no " + forbidden, !Pattern.compile(forbidden).matcher(code).find());
         }
+        LIBRARY.matcher(code).results().forEach(used ->
+                Due.isTrue("rule 4: " + used.group(), LIBRARY_ALLOWED.contains(used.group())));
         int longest = 0;
         int length = 0;
         for (String line : code.split("\n")) {
